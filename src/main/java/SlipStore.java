@@ -210,17 +210,17 @@ public final class SlipStore {
             h = DIGEST_FACTOR * h + count(what);
         }
         for (int i = 0; i < now.nodeCount; i++) {
-            h = DIGEST_FACTOR * digestRow(h, now.nodes[i], NODE_FIELDS) + ring(i);
+            h = DIGEST_FACTOR * digestRow(h, now.nodes[i]) + ring(i);
         }
         for (int i = 0; i < now.linkCount; i++) {
-            h = DIGEST_FACTOR * digestRow(h, now.links[i], LINK_FIELDS) + offers(i, QUALITY);
+            h = DIGEST_FACTOR * digestRow(h, now.links[i]) + offers(i, QUALITY);
         }
         return DIGEST_FACTOR * h + settles();
     }
 
-    private static long digestRow(long start, int[] row, int fields) {
+    private static long digestRow(long start, int[] row) {
         long h = start;
-        for (int f = 0; f < fields && f < row.length; f++) {
+        for (int f = 0; f < row.length; f++) {
             h = DIGEST_FACTOR * h + row[f];
         }
         return h;
@@ -572,7 +572,7 @@ public final class SlipStore {
 
         int chainNode(int i, int k) {
             int at = i, seen = 0;
-            for (int step = 0; step < MAX_NODES && hasNode(at) && !isSeen(seen, at); step++) {
+            for (int step = 0; step < MAX_NODES && hasNode(at) && (seen & 1 << at) == 0; step++) {
                 if (step == k) {
                     return at;
                 }
@@ -583,16 +583,12 @@ public final class SlipStore {
         }
 
         boolean isRing(int i) {
-            int at = i, seen = 0;
-            for (int step = 0; step < MAX_NODES && hasNode(at) && !isSeen(seen, at); step++) {
-                seen |= 1 << at;
+            // A CHAIN that goes on for more steps than there are NODES has come to one again.
+            int at = i;
+            for (int step = 0; step < MAX_NODES && hasNode(at); step++) {
                 at = nodeAhead(at);
             }
             return at != NONE;
-        }
-
-        private static boolean isSeen(int seen, int i) {
-            return (seen & 1 << i) != 0;
         }
 
         int counted(int what) {
@@ -660,14 +656,15 @@ public final class SlipStore {
         boolean read() {
             place = 0;
             orderCount = 0;
-            do {
-                skipBlanks();
-                if (orderCount >= MAX_ORDERS || !readOrder(orders[orderCount])) {
+            skipBlanks();
+            // The first ORDER is asked for even at the end: a text without one ends too early.
+            for (int n = 0; n < MAX_ORDERS && (n == 0 || place < length); n++) {
+                if (!readOrder(orders[n])) {
                     return false;
                 }
-                orderCount++;
+                orderCount = n + 1;
                 skipBlanks();
-            } while (place < length);
+            }
             return true;
         }
 
@@ -679,9 +676,6 @@ public final class SlipStore {
             }
             place++;
             order[0] = letter;
-            for (int k = 1; k < ORDER_FIELDS; k++) {
-                order[k] = 0;
-            }
             boolean endsInRate = letter == NODE_ORDER || letter == OWN_ORDER;
             for (int k = 1; k <= numbers; k++) {
                 skipBlanks();
