@@ -27,6 +27,8 @@ public final class SlipStore {
     private static final int FROM = 0, TO = 1, RANK = 2, UP = 3, FILL = 4, LOST = 5, REPEATED = 6;
     private static final int LOW = 7, HIGH = 8, BEYOND = 9, LINK_FIELDS = 10;
 
+    private static final int KEY_OF_QUALITY = 100, KEY_OF_HOPS = 10, NO_KEY = 1000;
+
     private static final int COUNT_FIELDS = 10, TOLD_FIELDS = 5;
 
     // The letters of THE TEXT; CLEARS alone has no ORDER there.
@@ -100,7 +102,9 @@ public final class SlipStore {
         if (!now.hasNode(i)) {
             return refuse(BAD);
         }
-        return now.bestLink(i);
+        trial.copyFrom(now);
+        trial.lookOnce();
+        return trial.nodes[i][REFERENCE];
     }
 
     public int chain(int i, int k) {
@@ -279,8 +283,9 @@ public final class SlipStore {
         final int[][] links = new int[MAX_LINKS][LINK_FIELDS];
         final int[] settings = new int[SETTINGS];
         int nodeCount = 0, linkCount = 0, tickCount = 0;
-        // All NODES look at once: what they find waits here till each of them has looked.
+        // All NODES look at once: what is OFFERED and what they find waits here till each has looked.
         private final int[][] found = new int[MAX_NODES][LOOKED_FIELDS];
+        private final int[] keys = new int[MAX_LINKS];
 
         Net() {
             settings[FRAME] = 16;
@@ -445,7 +450,7 @@ public final class SlipStore {
         /** The NODE from which the REFERENCE of NODE i comes, or NONE. */
         private int nodeAhead(int i) {
             int reference = nodes[i][REFERENCE];
-            return hasLink(reference) ? links[reference][FROM] : NONE;
+            return reference >= 0 && reference < linkCount ? links[reference][FROM] : NONE;
         }
 
         private boolean isOffering(int i) {
@@ -463,37 +468,11 @@ public final class SlipStore {
             return what == HOPS ? value + 1 : value;
         }
 
-        /** The LINK that a LOOK would make the REFERENCE of NODE i, or NONE. */
-        int bestLink(int i) {
-            int best = NONE;
-            for (int k = 0; k < linkCount; k++) {
-                if (isWelcome(k, i) && (best == NONE || isBetter(k, best))) {
-                    best = k;
-                }
-            }
-            return best;
-        }
-
-        private boolean isWelcome(int k, int i) {
-            return links[k][TO] == i
-                && isOffering(k)
-                && offered(k, QUALITY) < nodes[i][OWN_QUALITY];
-        }
-
-        private boolean isBetter(int k, int than) {
-            int quality = offered(k, QUALITY), otherQuality = offered(than, QUALITY);
-            if (quality != otherQuality) {
-                return quality < otherQuality;
-            }
-            int hops = offered(k, HOPS), otherHops = offered(than, HOPS);
-            if (hops != otherHops) {
-                return hops < otherHops;
-            }
-            return links[k][RANK] < links[than][RANK];
-        }
-
         /** One LOOK; whether it made anything of any NODE other. */
         boolean lookOnce() {
+            for (int k = 0; k < linkCount; k++) {
+                keys[k] = isOffering(k) ? keyOf(links[k]) : NO_KEY;
+            }
             for (int i = 0; i < nodeCount; i++) {
                 find(i, found[i]);
             }
@@ -507,13 +486,38 @@ public final class SlipStore {
             return changed;
         }
 
+        /** QUALITY, HOPS and RANK have one figure each where a LINK OFFERS: the least key is the best. */
+        private int keyOf(int[] link) {
+            int[] giver = nodes[link[FROM]];
+            return KEY_OF_QUALITY * giver[QUALITY] + KEY_OF_HOPS * (giver[HOPS] + 1) + link[RANK];
+        }
+
         private void find(int i, int[] row) {
             int best = bestLink(i);
-            boolean alone = best == NONE;
-            row[QUALITY] = alone ? nodes[i][OWN_QUALITY] : offered(best, QUALITY);
-            row[HOPS] = alone ? 0 : offered(best, HOPS);
-            row[RATE] = alone ? nodes[i][OWN_RATE] : offered(best, RATE);
             row[REFERENCE] = best;
+            if (best == NONE) {
+                row[QUALITY] = nodes[i][OWN_QUALITY];
+                row[HOPS] = 0;
+                row[RATE] = nodes[i][OWN_RATE];
+            } else {
+                int[] giver = nodes[links[best][FROM]];
+                row[QUALITY] = giver[QUALITY];
+                row[HOPS] = giver[HOPS] + 1;
+                row[RATE] = giver[RATE];
+            }
+        }
+
+        private int bestLink(int i) {
+            int best = NONE;
+            // Only a key of a better QUALITY than its OWN is below this.
+            int leastKey = KEY_OF_QUALITY * nodes[i][OWN_QUALITY];
+            for (int k = 0; k < linkCount; k++) {
+                if (links[k][TO] == i && keys[k] < leastKey) {
+                    best = k;
+                    leastKey = keys[k];
+                }
+            }
+            return best;
         }
 
         /** One TICK; the frames LOST and REPEATED by it. */

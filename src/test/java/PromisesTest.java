@@ -279,6 +279,25 @@ public final class PromisesTest {
         due("looks too many", x.looks(61), BAD);
         due("looks most", x.looks(60), 3);
         due("looks never back", neverBack(), NONE);
+        mostHops();
+    }
+
+    /** What node 0 told goes round till it has as many HOPS as can be, by LINKS of the last RANK. */
+    private static void mostHops() {
+        SlipStore x = withNodes(0, 0, 1, 0, 1, 0, 1, 0);
+        x.link(0, 1, 9);
+        x.link(1, 2, 9);
+        x.link(2, 3, 9);
+        x.link(3, 1, 9);
+        x.sets(2, 9);
+        x.looks(3);
+        x.turns(0);
+        due("looks round and round", x.looks(6), 3);
+        due("looks most hops", x.of(3, 1), 9);
+        due("looks quality of most hops", x.of(3, 0), 0);
+        due("looks nothing offered then", x.offers(3, 0), NONE);
+        due("looks one less", x.looks(1), 2);
+        due("looks own again", x.of(1, 0), 1);
     }
 
     /** Node 1 follows node 0, so it offers nothing to it when node 0 has become bad. */
