@@ -253,11 +253,23 @@ public final class EdgesOfTermsTest {
         Edge.due("worse than its QUALITY, better than its OWN", x.of(1, 0), 4);
         x.link(1, 3, 0);
         Edge.due("to a third, worse than its OWN", x.would(3), NONE);
+        SlipStore just = Edge.ring();
+        just.looks(4);
+        just.turns(4);
+        just.link(2, 4, 9);
+        just.owns(4, 1, 0);
+        Edge.row("by LINK 5", what -> just.offers(5, what), 0, 9, 10);
+        Edge.due("better by one, with the most HOPS and RANK", just.would(4), 5);
+        just.owns(4, 0, 0);
+        Edge.due("like, with the most HOPS and RANK", just.would(4), NONE);
+        just.link(0, 4, 0);
+        Edge.due("like, with the fewest HOPS and least RANK", just.would(4), NONE);
     }
 
     private static void bestOfWhatIsOffered() {
         Edge.sentence(TERMS,
-            "that of the best QUALITY, of like ones of the fewest HOPS, then of the least RANK, then of the least LINK");
+            "that of the best QUALITY, of like ones of the fewest HOPS, then of the least RANK, "
+            + "then of the least LINK");
         SlipStore x = Edge.ring();
         x.looks(4);
         Edge.due("HOPS of what goes round", x.of(2, 1), 8);

@@ -105,14 +105,17 @@ public final class EdgesOfTextsTest {
 
     private static void figures() {
         Edge.sentence(TERMS, "Numbers have 1 to 3 figures");
-        String[] none = {"n;", "n0;", "n0 ;", "n0-;", "l;", "l0;", "l0 1;", "o;", "o0;", "o0 0;", "o0 0-;", "u;", "s;", "s1;",
-            "k;", "t;"};
+        String[] none = {"n;", "n0;", "n0 ;", "n0-;", "l;", "l0;", "l0 1;", "o;", "o0;", "o0 0;", "o0 0-;", "u;",
+            "s;", "s1;", "k;", "t;"};
         for (String text : none) {
             Edge.due(text, does(text), -10 - text.indexOf(';'));
         }
-        String[][] heads = {{"n", "0", " 0;"}, {"n0 ", "0", ";"}, {"n0-", "0", ";"}, {"l", "0", " 1 0;"}, {"l0 ", "1", " 0;"},
-            {"l0 1 ", "0", ";"}, {"o", "0", " 0 0;"}, {"o0 ", "0", " 0;"}, {"o0 0 ", "0", ";"}, {"o0 0-", "0", ";"},
-            {"u", "0", ";"}, {"s", "0", " 4;"}, {"s1 ", "4", ";"}, {"k", "1", ";"}, {"t", "1", ";"}};
+        String[][] heads = {
+            {"n", "0", " 0;"}, {"n0 ", "0", ";"}, {"n0-", "0", ";"},
+            {"l", "0", " 1 0;"}, {"l0 ", "1", " 0;"}, {"l0 1 ", "0", ";"},
+            {"o", "0", " 0 0;"}, {"o0 ", "0", " 0;"}, {"o0 0 ", "0", ";"}, {"o0 0-", "0", ";"},
+            {"u", "0", ";"}, {"s", "0", " 4;"}, {"s1 ", "4", ";"}, {"k", "1", ";"}, {"t", "1", ";"},
+        };
         for (String[] row : heads) {
             Edge.due(row[0] + ", 1 figure", does(row[0] + row[1] + row[2]), 1);
             Edge.due(row[0] + ", 2 figures", does(row[0] + "0" + row[1] + row[2]), 1);
@@ -148,8 +151,8 @@ public final class EdgesOfTextsTest {
 
     private static void blanks() {
         Edge.sentence(TERMS, "blanks (32) may stand anywhere but within a number or between - and its figures");
-        String[] parts = {"n", "9", "-99", ";", "l", "0", "1", "9", ";", "o", "1", "9", "-9", ";", "u", "0", ";", "s", "2",
-            "9", ";", "k", "60", ";", "t", "200", ";"};
+        String[] parts = {"n", "9", "-99", ";", "l", "0", "1", "9", ";", "o", "1", "9", "-9", ";", "u", "0", ";",
+            "s", "2", "9", ";", "k", "60", ";", "t", "200", ";"};
         Edge.due("one everywhere", does(" " + String.join(" ", parts) + " "), 7);
         Edge.due("two everywhere", does("  " + String.join("  ", parts) + "  "), 7);
         Edge.due("within a number", does("t20 0;"), -10 - 4);
@@ -175,12 +178,13 @@ public final class EdgesOfTextsTest {
     }
 
     private static void readWholeFirst() {
-        Edge.sentence(TERMS, "THE TEXT is read whole first; an ORDER that its call would refuse then ends all, nothing is done.");
+        Edge.sentence(TERMS,
+            "THE TEXT is read whole first; an ORDER that its call would refuse then ends all, nothing is done.");
         Edge.due("a FAULT behind a refused one", does("k0;u0;x"), -10 - 6);
         Edge.due("ends too early behind a refused one", does("k0;u"), -10 - 4);
-        String[] refused = {"n10 0;", "n0 100;", "n0-100;", "l0 0 0;", "l2 0 0;", "l0 2 0;", "l0 1 10;", "o2 0 0;", "o0 10 0;",
-            "o0 0 100;", "o0 0-100;", "u1;", "s3 4;", "s0 3;", "s0 65;", "s1 129;", "s2 0;", "s2 10;", "k0;", "k61;", "t0;",
-            "t201;"};
+        String[] refused = {"n10 0;", "n0 100;", "n0-100;", "l0 0 0;", "l2 0 0;", "l0 2 0;", "l0 1 10;", "o2 0 0;",
+            "o0 10 0;", "o0 0 100;", "o0 0-100;", "u1;", "s3 4;", "s0 3;", "s0 65;", "s1 129;", "s2 0;", "s2 10;",
+            "k0;", "k61;", "t0;", "t201;"};
         for (String text : refused) {
             leavesAll(text, -2000);
             leavesAll("u0;t9;" + text + "u9;", -2002);
@@ -218,11 +222,14 @@ public final class EdgesOfTextsTest {
             {"n1-", FIGURES}, {"n1 -", FIGURES}, {"n1-1", end}, {"n1-12", end}, {"n1-123", " ;"}, {"n1-1 ", " ;"},
             {"n1 1", end}, {"n1 12", end}, {"n1 123", " ;"}, {"n1 1 ", " ;"},
             {"l", number}, {"l1", number}, {"l12", number}, {"l123", " "}, {"l1 ", number}, {"l1 1", number},
-            {"l1 123", " "}, {"l1 1 ", number}, {"l1 1 1", end}, {"l1 1 12", end}, {"l1 1 123", " ;"}, {"l1 1 1 ", " ;"},
+            {"l1 123", " "}, {"l1 1 ", number}, {"l1 1 1", end}, {"l1 1 12", end}, {"l1 1 123", " ;"},
+            {"l1 1 1 ", " ;"},
             {"o", number}, {"o1", number}, {"o123", " "}, {"o1 ", number}, {"o1 1", rate}, {"o1 123", " -"},
-            {"o1 1 ", rate}, {"o1 1-", FIGURES}, {"o1 1-1", end}, {"o1 1-123", " ;"}, {"o1 1 1", end}, {"o1 1 1 ", " ;"},
+            {"o1 1 ", rate}, {"o1 1-", FIGURES}, {"o1 1-1", end}, {"o1 1-123", " ;"}, {"o1 1 1", end},
+            {"o1 1 1 ", " ;"},
             {"u", number}, {"u ", number}, {"u1", end}, {"u12", end}, {"u123", " ;"}, {"u1 ", " ;"},
-            {"s", number}, {"s1", number}, {"s123", " "}, {"s1 ", number}, {"s1 1", end}, {"s1 123", " ;"}, {"s1 1 ", " ;"},
+            {"s", number}, {"s1", number}, {"s123", " "}, {"s1 ", number}, {"s1 1", end}, {"s1 123", " ;"},
+            {"s1 1 ", " ;"},
             {"k", number}, {"k1", end}, {"k123", " ;"}, {"k1 ", " ;"},
             {"t", number}, {"t1", end}, {"t123", " ;"}, {"t1 ", " ;"},
         };
@@ -377,7 +384,8 @@ public final class EdgesOfTextsTest {
     }
 
     private static void theFirstOf() {
-        Edge.sentence(TERMS, "Refused (any call, getters, too), changing nothing but how often, the first of: BAD -1002");
+        Edge.sentence(TERMS,
+            "Refused (any call, getters, too), changing nothing but how often, the first of: BAD -1002");
         Edge.refused("node, BAD and FULL", Edge::withAllNodes, x -> x.node(10, 0), BAD);
         Edge.refused("link, BAD and FULL", Edge::withAllLinks, x -> x.link(0, 0, 0), BAD);
         Edge.refused("type, BAD and FULL", Edge::withAllBytes, x -> x.type(128), BAD);
@@ -532,7 +540,8 @@ public final class EdgesOfTextsTest {
     }
 
     private static void told() {
-        Edge.sentence("Promise 23: told", "How often refused: BAD (0), NO (1), FULL (2); bytes of THE TEXT (3), STATES (4).");
+        Edge.sentence("Promise 23: told",
+            "How often refused: BAD (0), NO (1), FULL (2); bytes of THE TEXT (3), STATES (4).");
         SlipStore x = new SlipStore();
         Edge.row("nothing", x::told, 0, 0, 0, 0, 0, BAD);
         x.back();
@@ -562,7 +571,8 @@ public final class EdgesOfTextsTest {
 
     /** By numbers that do not wrap around; the last 64 bits are what a long has. */
     private static void digestWraps() {
-        Edge.sentence("Promise 24: digest", "told(0) to told(4); count(0) to count(9); of each NODE of(0) to of(7), ring()");
+        Edge.sentence("Promise 24: digest",
+            "told(0) to told(4); count(0) to count(9); of each NODE of(0) to of(7), ring()");
         SlipStore most = Edge.withAllNodes();
         for (int k = 0; k < 10; k++) {
             most.link(k % 6, (k + 1) % 6, k);

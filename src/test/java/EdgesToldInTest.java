@@ -247,6 +247,12 @@ public final class EdgesToldInTest {
         SlipStore y = Edge.sixInARow();
         y.owns(0, 5, 0);
         Edge.due("four at once", y.looks(4), 1);
+        SlipStore first = Edge.nodes(9, 0, 0, 0);
+        first.link(1, 0, 0);
+        Edge.due("NODE 0 alone", first.looks(1), 1);
+        SlipStore last = Edge.nodes(9, 0, 9, 0, 9, 0, 9, 0, 0, 0, 9, 0);
+        last.link(4, 5, 0);
+        Edge.due("NODE 5 alone", last.looks(1), 1);
         SlipStore none = new SlipStore();
         Edge.due("no NODES", none.looks(60), 0);
         Edge.due("a STATE though nothing is other", none.told(4), 1);
