@@ -19,20 +19,18 @@ public final class ReadmeTest {
     private static final Check check = new Check();
 
     private final String page;
-    private final Path top;
     private final Path project;
 
-    private ReadmeTest(String page, Path top) {
+    private ReadmeTest(String page, Path project) {
         this.page = page;
-        this.top = top;
-        this.project = top.resolve("main");
+        this.project = project;
     }
 
     public static void main(String[] args) throws IOException, InterruptedException {
         Path top = Files.createTempDirectory("readme");
         try {
             ReadmeTest test = new ReadmeTest(Files.readString(Path.of("README.md")), top);
-            test.copyProject();
+            copy(Path.of("src"), test.project.resolve("src"));
             test.example();
             test.tests();
             test.table();
@@ -40,11 +38,6 @@ public final class ReadmeTest {
             remove(top);
         }
         check.end();
-    }
-
-    private void copyProject() throws IOException {
-        copy(Path.of("src"), project.resolve("src"));
-        copy(Path.of("../shared").toRealPath(), top.resolve("shared"));
     }
 
     private void example() throws IOException, InterruptedException {
